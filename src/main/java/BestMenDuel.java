@@ -1104,7 +1104,7 @@ public final class BestMenDuel {
     }
   }
 
-  /** Reads a DAWN. Each method answers whether all stood as it must, and leaves the FAULT if not. */
+  /** Reads a DAWN. Each method answers whether all stood as it must; if not, the FAULT is left. */
   private static final class DawnReader {
     private final Tokens tokens;
     private Dawn dawn;
@@ -1560,7 +1560,7 @@ public final class BestMenDuel {
 
     /** How many BLOWS a THING, or none, bears yet: 0 if it is BROKEN. */
     int bearsYet(int thing) {
-      return thing == NONE ? 0 : Math.max(0, breaks[thing] - worn[thing]);
+      return thing == NONE || worn[thing] >= breaks[thing] ? 0 : breaks[thing] - worn[thing];
     }
 
     int reachOf(int man) {
@@ -1700,24 +1700,19 @@ public final class BestMenDuel {
 
     /** The DUEL from its beginning, with LIFE as they ever have at most. */
     void open(Dawn dawn, int man, int other) {
-      enter(0, dawn, man);
-      enter(1, dawn, other);
+      enter(dawn, man, other);
       life[0] = most[0];
       life[1] = most[1];
-      length = dawn.rules[LONG];
-      sun = dawn.rules[SUN];
-      glare = dawn.rules[GLARE];
       cell[0] = 0;
       cell[1] = length;
       time = 0;
-      took = 0;
       spared[0] = 0;
       spared[1] = 0;
     }
 
     /** The DUEL that is on, as it is now. */
     void resume(Dawn dawn) {
-      open(dawn, dawn.first, dawn.second);
+      enter(dawn, dawn.first, dawn.second);
       life[0] = dawn.life[dawn.first];
       life[1] = dawn.life[dawn.second];
       cell[0] = dawn.firstCell;
@@ -1725,13 +1720,19 @@ public final class BestMenDuel {
       time = dawn.time;
     }
 
-    private void enter(int side, Dawn dawn, int man) {
-      int thing = dawn.held[man];
-      most[side] = dawn.most[man];
-      strength[side] = dawn.strength[man];
-      bears[side] = dawn.bearsYet(thing);
-      reach[side] = thing == NONE ? 1 : dawn.reach[thing];
-      weight[side] = thing == NONE ? 0 : dawn.weight[thing];
+    private void enter(Dawn dawn, int man, int other) {
+      length = dawn.rules[LONG];
+      sun = dawn.rules[SUN];
+      glare = dawn.rules[GLARE];
+      for (int side = 0; side < 2; side++) {
+        int who = side == 0 ? man : other;
+        int thing = dawn.held[who];
+        most[side] = dawn.most[who];
+        strength[side] = dawn.strength[who];
+        bears[side] = dawn.bearsYet(thing);
+        reach[side] = thing == NONE ? 1 : dawn.reach[thing];
+        weight[side] = thing == NONE ? 0 : dawn.weight[thing];
+      }
     }
 
     /** An ACT in the DUEL of a DAWN; false if there is none, or the ACT can't be. */
