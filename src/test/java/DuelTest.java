@@ -235,6 +235,17 @@ public final class DuelTest {
     Check.refused(y, "he can't flee, nor win", y.forced(), 6);
     y.act(0);
     Check.due("one turn", y.forced(), 1);
+
+    BestMenDuel z = Check.withDawn("long 2;thing t reach 2 weight 2 breaks 9;"
+        + "man a strength 3 life 20 holds t;man b strength 1 life 10;", 2);
+    z.meet(0, 1);
+    Check.due("5, a rest, 5 are not enough: 5 turns", z.forced(), 5);
+    z.train(0, 4);
+    Check.due("6, a rest, 6 are", z.forced(), 3);
+    z.part();
+    z.train(1, 9);
+    z.meet(0, 1);
+    Check.due("who could fell him first does not reach", z.forced(), 3);
   }
 
   private static void reaching() {

@@ -67,6 +67,12 @@ public final class GiftsTest {
     Check.refused(y, "no THINGS", y.gift(1, 0), 6);
     y.forge(1, 1, 1);
     Check.refused(y, "one THING is no couple", y.fair(0, 1, 0), 6);
+    BestMenDuel z = Check.withDawn("thing t reach 1 weight 0 breaks 1;"
+        + "man a strength 1 life 60;man b strength 1 life 60;", 2);
+    Check.due("60 BLOWS", z.needs(0, 1), 60);
+    Check.due("60 BLOWS with t", z.needsWith(0, 1, 0), 60);
+    Check.due("gift of 60", z.gift(0, 1), 0);
+    Check.due("champion by 60", z.champion(1), 0);
   }
 
   private static void arming() {

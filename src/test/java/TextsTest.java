@@ -113,6 +113,9 @@ public final class TextsTest {
     Check.dawnFault("odds 3;odds", 5, 7);
     Check.dawnFault("long 13; ?", 4, 5);
     Check.withDawn("long6;sun 1;\n\nman a strength1life1;", 1);
+    Check.dawnFault(";".repeat(900), 2, 0);
+    Check.dawnFault("sun 5;" + " ".repeat(893) + "?", 1, 899);
+    Check.dawnFault("sun 5;" + " ".repeat(890) + "long", 2, 900);
   }
 
   private static void names() {
@@ -125,6 +128,7 @@ public final class TextsTest {
     }
     Check.dawnFault("man abcdefghi strength", 2, 4);
     Check.withDawn("man abcdefgh strength 1 life 1; man abcdefg strength 1 life 1;", 2);
+    Check.withDawn("man a strength 1 life 1; man z strength 1 life 1; man az strength 1 life 1;", 3);
     String thing = "thing t reach 1 weight 1 breaks 1;";
     Check.dawnFault(thing + "thing t", 3, 40);
     Check.dawnFault(thing + "man t", 3, 38);

@@ -177,6 +177,7 @@ public final class YearsTest {
     Check.denied(x, "many 0", x.mean(0, 0), 1);
     Check.denied(x, "many 21", x.mean(0, 21), 1);
     Check.denied(x, "the last above 9999", x.mean(9999, 2), 1);
+    Check.due("the last is 9999", x.mean(9999, 1), true);
     long sum = 0;
     for (int seed = 9980; seed < 10000; seed++) {
       Check.due("mark", x.mark(), 1);
