@@ -1,7 +1,15 @@
+import java.io.IOException;
+import java.nio.charset.StandardCharsets;
+import java.nio.file.Files;
+import java.nio.file.Path;
+
 /** What the tests share: counting answers that are not as due, and texts for the tape. */
 final class Check {
+  private static final Path DOCUMENT = Path.of("../shared/DOC.md");
   private static int asked = 0;
   private static int wrong = 0;
+  private static String document = "";
+  private static String sentence = "";
 
   private Check() {}
 
@@ -9,8 +17,30 @@ final class Check {
     asked++;
     if (got != want) {
       wrong++;
-      System.out.println(call + " answered " + got + ", due is " + want);
+      System.out.println(sentence + call + " answered " + got + ", due is " + want);
     }
+  }
+
+  /** The words that the next answers are held to: the document must have them just so. */
+  static void says(String words) {
+    if (document.isEmpty()) {
+      document = oneLine(read());
+    }
+    sentence = "";
+    due("the document says '" + words + "'", document.contains(oneLine(words)), true);
+    sentence = "'" + words + "': ";
+  }
+
+  private static String read() {
+    try {
+      return Files.readString(DOCUMENT, StandardCharsets.UTF_8);
+    } catch (IOException e) {
+      return "no " + DOCUMENT;
+    }
+  }
+
+  private static String oneLine(String text) {
+    return text.replaceAll("\\s+", " ");
   }
 
   static void due(String call, boolean got, boolean want) {
