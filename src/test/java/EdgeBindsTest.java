@@ -104,7 +104,8 @@ public final class EdgeBindsTest {
       Check.due("it is not asked", x.heldBack(0, 1, 0, 1, 0), 1);
     }
     x.tray(0, 3, 1);
-    for (long bad : new long[] {Long.MIN_VALUE, -1L << 32, 1L << 32, (1L << 32) + 3, Long.MAX_VALUE}) {
+    long[] far = {Long.MIN_VALUE, -1L << 32, 1L << 32, (1L << 32) + 3, Long.MAX_VALUE};
+    for (long bad : far) {
       x.write(0, 0, bad);
       both(x, "no ACT " + bad, 0, 1, 5);
     }
@@ -162,6 +163,9 @@ public final class EdgeBindsTest {
     x.write(0, 0, 1);
     Check.due("beside him, the second", x.heldBack(0, 1, 0, 20, 1), 10);
     Check.due("beside him, the first", x.heldBack(0, 1, 0, 20, 0), 10);
+    x.write(0, 0, 0);
+    Check.due("2 off again, the second", x.heldBack(0, 1, 0, 20, 1), 0);
+    Check.due("2 off again, the first", x.heldBack(0, 1, 0, 19, 0), 10);
   }
 
   private static void heldBackCounts() {
@@ -295,16 +299,18 @@ public final class EdgeBindsTest {
   private static void hurtsOrders() {
     Check.says("5 a number in a TRAY that can't be.");
     BestMenDuel x = Check.withDawn(THREE, 3);
-    int[][] bad = {{0, 1, 1}, {0, 0, 1}, {2, 1, 2}, {0, 1, 3}, {-1, 1, 2}, {0, 1, -128}, {127, 1, 0}};
+    int[][] bad = {{0, 1, 1}, {0, 0, 1}, {2, 1, 2}, {0, 1, 3}, {-1, 1, 2}, {0, 1, -128},
+        {127, 1, 0}};
     for (int[] row : bad) {
       put(x, 0, row);
       Check.refused(x, "no ORDER", x.hurts(0), 5);
     }
     x.tray(1, 3, 3);
     x.write(1, 1, 1);
-    for (long far : new long[] {Long.MIN_VALUE, (1L << 32) + 2, 1L << 32, -1L << 32, Long.MAX_VALUE}) {
-      x.write(1, 2, far);
-      Check.refused(x, "no MAN " + far, x.hurts(1), 5);
+    long[] far = {Long.MIN_VALUE, (1L << 32) + 2, 1L << 32, -1L << 32, Long.MAX_VALUE};
+    for (long man : far) {
+      x.write(1, 2, man);
+      Check.refused(x, "no MAN " + man, x.hurts(1), 5);
     }
     x.write(1, 2, 2);
     Check.due("an ORDER in 64 bits", x.hurts(1), 0);

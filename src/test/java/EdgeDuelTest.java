@@ -39,11 +39,15 @@ public final class EdgeDuelTest {
     valueTurns();
     valueBelowNone();
     valueStaysSo();
+    valueByTurns();
+    valueWearsThings();
     moveTurns();
     moveFirstOfSeveral();
+    moveByTurns();
     forcedAtOnce();
     forcedUpToEight();
     reachedEdges();
+    askedAtOnce();
     Check.end("EdgeDuelTest");
   }
 
@@ -341,7 +345,8 @@ public final class EdgeDuelTest {
       + "man b strength 3 life 9;";
 
   private static void giveEdges() {
-    Check.says("GIVE (8: none) (1; 7: somebody HOLDS it, he himself, too; none, if he HOLDS none).");
+    Check.says("GIVE (8: none) (1; 7: somebody HOLDS it, he himself, too; none, if he HOLDS "
+        + "none).");
     BestMenDuel x = Check.withDawn(ARMED, 2);
     for (int man : new int[] {LEAST, -1, 2, 6, MOST}) {
       Check.denied(x, "give(" + man + ", 1)", x.give(man, 1), 1);
@@ -589,6 +594,42 @@ public final class EdgeDuelTest {
     }
   }
 
+  private static void valueByTurns() {
+    Check.says("by best play of both, LIFE of the first less that of the second behind these");
+    BestMenDuel x = two("strength 5 life 9", "strength 0 life 9");
+    x.meet(0, 1);
+    // Go, then a strike by every other turn; the second rests.
+    int[] all = {0, 0, 0, 5, 4, 9, 9, 9};
+    for (int turns = 0; turns <= 7; turns++) {
+      Check.due("value(" + turns + ")", x.value(turns), all[turns]);
+    }
+  }
+
+  private static void valueWearsThings() {
+    BestMenDuel x = Check.withDawn("long 2;thing s reach 1 weight 5 breaks 1;"
+        + "man a strength 1 life 20 holds s;man b strength 0 life 20;", 2);
+    beside(x, 0, 1);
+    BestMenDuel y = Check.withDawn("long 2;thing s reach 1 weight 5 breaks 1;"
+        + "man a strength 0 life 20;man b strength 1 life 20 holds s;", 2);
+    y.meet(0, 1);
+    y.act(GO);
+    // 6 by s, then 1 by each strike, and 1 back by each rest.
+    for (int turns = 1; turns <= 7; turns++) {
+      int due = turns % 2 == 1 ? 6 : 5;
+      Check.due("of the first, value(" + turns + ")", x.value(turns), due);
+      Check.due("of the second, value(" + turns + ")", y.value(turns), -due);
+    }
+    Check.due("WORN by no VALUE", x.thing(0, 3), 0);
+    BestMenDuel z = Check.withDawn("long 2;thing s reach 1 weight 5 breaks 30;"
+        + "thing t reach 1 weight 4 breaks 30;man a strength 1 life 60 holds s;"
+        + "man b strength 1 life 60 holds t;", 2);
+    beside(z, 0, 1);
+    int[] all = {0, 6, 1, 7};
+    for (int turns = 0; turns <= 3; turns++) {
+      Check.due("BREAKS 30, value(" + turns + ")", z.value(turns), all[turns]);
+    }
+  }
+
   private static void moveTurns() {
     Check.says("MOVE (1: turns 0, too; 6).");
     BestMenDuel x = two("strength 9 life 9", "strength 9 life 9");
@@ -629,6 +670,24 @@ public final class EdgeDuelTest {
     Check.due("the second STRIKES", y.move(1), STRIKE);
   }
 
+  private static void moveByTurns() {
+    Check.says("MOVE: what who ACTS does first");
+    BestMenDuel x = two("strength 5 life 9", "strength 0 life 9");
+    x.meet(0, 1);
+    Check.due("one turn takes nothing", x.move(1), REST);
+    Check.due("nor do two", x.move(2), REST);
+    Check.due("go, rest, strike", x.move(3), GO);
+    BestMenDuel y = two("strength 0 life 9", "strength 5 life 9");
+    y.meet(1, 0);
+    Check.due("three of who is told second", y.move(3), GO);
+    y.part();
+    y.meet(0, 1);
+    y.act(REST);
+    Check.due("one of the second", y.move(1), REST);
+    Check.due("two of the second", y.move(2), REST);
+    Check.due("three of the second", y.move(3), GO);
+  }
+
   private static void forcedAtOnce() {
     Check.says("FORCED: in how few turns (1 to 8) who ACTS can make the other fall, whatever that "
         + "one does.");
@@ -650,6 +709,48 @@ public final class EdgeDuelTest {
       beside(x, 0, 1);
       Check.due("LIFE " + life, x.forced(), turns[life - 1]);
       Check.due("status()", x.status(), turns[life - 1] == -1 ? 6 : 0);
+    }
+  }
+
+  /** Each question as the first one behind what changes its answer. */
+  private static void askedAtOnce() {
+    Check.says("GIVE: a MAN HOLDS a THING that nobody HOLDS, or none, in place of what he HELD.");
+    for (int question = 0; question < 6; question++) {
+      BestMenDuel x = Check.withDawn("long 2;thing t reach 2 weight 9 breaks 9;"
+          + "man a strength 1 life 9;man b strength 1 life 9;man c strength 9 life 5;", 3);
+      x.meet(0, 1);
+      Check.due("met, question " + question, asked(x, question),
+          new int[] {3, 1, 0, 0, -1, 2}[question]);
+      x.give(0, 0);
+      Check.due("given, question " + question, asked(x, question),
+          new int[] {11, 10, 9, 3, 1, 0}[question]);
+      x.mark();
+      x.act(GO);
+      x.act(REST);
+      x.undo();
+      x.give(0, 8);
+      Check.due("taken back, question " + question, asked(x, question),
+          new int[] {3, 1, 0, 0, -1, 2}[question]);
+      x.meet(2, 1);
+      Check.due("met anew, question " + question, asked(x, question),
+          new int[] {3, 9, -4, 0, 3, 2}[question]);
+    }
+  }
+
+  private static int asked(BestMenDuel x, int question) {
+    switch (question) {
+      case 0:
+        return x.acts();
+      case 1:
+        return x.wound();
+      case 2:
+        return x.value(1);
+      case 3:
+        return x.move(1);
+      case 4:
+        return x.forced();
+      default:
+        return x.reached();
     }
   }
 

@@ -80,6 +80,10 @@ public final class EdgeGiftsTest {
     }
     BestMenDuel y = two("", "strength 1 life 1", "strength 9 life 60");
     Check.due("60 by 1", y.needs(0, 1), 60);
+    Check.due("champion by 60", y.champion(1), 0);
+    y.forge(1, 0, 1);
+    Check.due("gift by 60", y.gift(0, 1), 0);
+    Check.due("arms by 60", y.arms(1, 1), 60);
     BestMenDuel z = two("", "strength 9 life 1", "strength 9 life 60");
     Check.due("60 by 9", z.needs(0, 1), 7);
   }
@@ -258,6 +262,14 @@ public final class EdgeGiftsTest {
     Check.due("alike", z.fair(0, 1, 0), 0);
     Check.due("t", z.fair(0, 1, 1), 1);
     Check.due("u", z.fair(0, 1, 2), 2);
+    Check.due("the other way: u", z.fair(1, 0, 1), 2);
+    Check.due("t", z.fair(1, 0, 2), 1);
+    BestMenDuel w = two(thing("s", 9, 30) + thing("t", 0, 30), "strength 5 life 10",
+        "strength 1 life 10");
+    // a by s 1, by t 2; b by s 1, by t 10: t and s differ by 1.
+    Check.due("2 and 1", w.fair(0, 1, 0), 1);
+    Check.due("t, the last", w.fair(0, 1, 1), 1);
+    Check.due("s, the first", w.fair(0, 1, 2), 0);
   }
 
   private static void fairOfUnlike() {

@@ -19,6 +19,7 @@ public final class EdgeStatusTest {
   public static void main(String[] args) {
     callsWithoutStatus();
     statusOfTheLatest();
+    eachStatus();
     firstThatHolds();
     fractions();
     fractionToldLatest();
@@ -30,6 +31,7 @@ public final class EdgeStatusTest {
     giftRefusals();
     bindingRefusals();
     yearsAndMarks();
+    laidAsTold();
     refusalsChangeNothing();
     anyNumbers();
     Check.end("EdgeStatusTest");
@@ -74,6 +76,27 @@ public final class EdgeStatusTest {
     Check.due("status()", x.status(), 0);
   }
 
+  private static void eachStatus() {
+    Check.says("4 one too many. 5 a number in a TRAY that can't be. 6 there is none such. 7 it "
+        + "can't be. 8 TRAYS are of unlike sorts. 9 a FAULT. 0 else.");
+    BestMenDuel x = laid();
+    Check.due("a third MARK", x.mark(), 3);
+    Check.due("0", x.status(), 0);
+    Check.refused(x, "a fourth MARK", x.mark(), 4);
+    Check.refused(x, "an ORDER of 9, 8, 7, 6", x.hurts(0), 5);
+    Check.refused(x, "nobody HOLDS it", x.holder(2), 6);
+    Check.refused(x, "he HOLDS nothing", x.holds(2), 6);
+    Check.refused(x, "he has all", x.heal(2, 1), 7);
+    Check.denied(x, "8 bits to 16", x.pour(0, 0, 1, 0, 0), 8);
+    Check.refused(x, "years of the tape", x.years(17), 9);
+    Check.due("blanks alone", x.years(0), 0);
+    Check.due("0", x.status(), 0);
+    for (int thing = 3; thing < 8; thing++) {
+      Check.due("forge", x.forge(1, 1, 1), thing);
+    }
+    Check.refused(x, "a ninth THING", x.forge(1, 1, 1), 4);
+  }
+
   private static void firstThatHolds() {
     Check.says("STATUS of a call is the first of these that holds");
     BestMenDuel x = laid();
@@ -108,8 +131,8 @@ public final class EdgeStatusTest {
   }
 
   private static void fractions() {
-    Check.says("FRACTIONS are told by top() and bottom() without a common divisor, the bottom above "
-        + "0; 0 is 0 by 1.");
+    Check.says("FRACTIONS are told by top() and bottom() without a common divisor, the bottom "
+        + "above 0; 0 is 0 by 1.");
     BestMenDuel x = Check.withDawn("odds 8;man a strength 1 life 2;man b strength 1 life 2;", 2);
     Check.fraction(x, "0 of 65536", x.enough(0, 1, 0), 0, 1);
     Check.fraction(x, "1 of 4", x.enough(0, 1, 2), 1, 4);
@@ -123,6 +146,7 @@ public final class EdgeStatusTest {
 
   private static void fractionToldLatest() {
     Check.says("The top of the FRACTION told latest.");
+    Check.says("Its bottom, above 0.");
     BestMenDuel x = Check.withDawn("odds 8;thing t reach 1 weight 1 breaks 1;"
         + "man a strength 1 life 2;man b strength 1 life 2;", 2);
     Check.due("top()", x.top(), 0);
@@ -139,15 +163,15 @@ public final class EdgeStatusTest {
   // ---- refusals
 
   /**
-   * Four MEN: a, b in a DUEL, 2 off, a on CELL 1 to ACT; c can't strike for anything; d fell. THING 0
-   * of a is WORN once, THING 1 of b is BROKEN, nobody HOLDS THING 2.
+   * Four MEN: a, b in a DUEL, 2 off, a on CELL 1 to ACT; c can't strike for anything; d fell.
+   * THING 0 of a is WORN, THING 1 of b is BROKEN, nobody HOLDS THING 2.
    */
   private static BestMenDuel laid() {
     BestMenDuel x = Check.withDawn("long 3;sun 5;odds 3;thing s reach 1 weight 2 breaks 3;"
         + "thing t reach 3 weight 0 breaks 1;thing u reach 1 weight 0 breaks 4;"
         + "man a strength 2 life 9 holds s;man b strength 3 life 60 holds t;"
         + "man c strength 0 life 50;man d strength 1 life 3;", 4);
-    Check.years(x, "meet a b;loop 3;any;end;heal a 2;");
+    Check.years(x, "meet a b;loop 3;any;end;heal a 1;");
     x.meet(0, 3);
     x.act(1);
     x.act(1);
@@ -174,6 +198,18 @@ public final class EdgeStatusTest {
     Check.refused(x, "a FAULT", x.dawn(5), 9);
     Check.feed(x, "years of the tape");
     return x;
+  }
+
+  private static void laidAsTold() {
+    Check.says("changes nothing else");
+    BestMenDuel x = laid();
+    Check.due("d fell", x.told(8), 7);
+    Check.due("THING 1 is BROKEN", x.told(6), 2);
+    Check.due("THING 2 is free", x.told(7), 4);
+    Check.due("a ACTS", x.duel(6), 0);
+    Check.due("NEAR", x.duel(4), 2);
+    Check.due("THING 0 is WORN", x.thing(0, 3) > 0, true);
+    Check.due("a has lost LIFE", x.man(0, 1) < 9, true);
   }
 
   private static void add(String name, int status, Call call) {

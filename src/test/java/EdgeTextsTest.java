@@ -28,8 +28,12 @@ public final class EdgeTextsTest {
     names();
     longNames();
     reservedNames();
+    newNameThatIsTaken();
     oneNameOfOneThing();
+    noThingToldAhead();
     toldAhead();
+    numberedAsTheyStand();
+    numberThatCant();
     ruleEdges();
     ruleWithout();
     thingEdges();
@@ -217,7 +221,8 @@ public final class EdgeTextsTest {
     for (int i = 0; i < 4; i++) {
       Check.due("told(" + (i + 2) + ")", x.told(i + 2), rules[i]);
     }
-    Check.due("no blanks", Check.dawn(x, "thing\nt\nreach1weight2breaks3;man m strength4life5;"), 1);
+    String dense = "thing\nt\nreach1weight2breaks3;man m strength4life5;";
+    Check.due("no blanks", Check.dawn(x, dense), 1);
     Check.due("BREAKS", x.thing(0, 2), 3);
     Check.due("LIFE", x.man(0, 1), 5);
     Check.dawnFault("longsun 7;", 2, 0);
@@ -303,7 +308,9 @@ public final class EdgeTextsTest {
   /** A # stands for a NUMBER, one letter for a NAME; in each place others are tried. */
   private static void everyPlace(String... tokens) {
     String ahead = "thing h reach 1 weight 1 breaks 1;";
-    String[] others = {"strength", "7", "=", ";", "<", "abcdefghi", "b", "end", "meet", "?", "12345"};
+    String[] others = {
+      "strength", "7", "=", ";", "<", "abcdefghi", "b", "end", "meet", "?", "12345"
+    };
     StringBuilder text = new StringBuilder(ahead);
     for (String token : tokens) {
       for (String other : others) {
@@ -383,6 +390,16 @@ public final class EdgeTextsTest {
   }
 
   private static void oneNameOfOneThing() {
+    Check.says("One NAME is of one thing alone.");
+    Check.withDawn(THING + MAN + "thing tt reach 1 weight 1 breaks 1;man mm strength 1 life 1;", 2);
+    Check.dawnFault(THING + "sun 1;" + MAN + "thing t", 3, 70);
+    Check.dawnFault(MAN + THING + "man n strength 1 life 1 holds t;man m", 3, 94);
+    BestMenDuel x = Check.withDawn(THING + MAN, 1);
+    String swapped = "thing m reach 1 weight 1 breaks 1;man t strength 1 life 1;";
+    Check.due("taken by the DAWN ahead alone", Check.dawn(x, swapped), 1);
+  }
+
+  private static void newNameThatIsTaken() {
     Check.says("3 a new NAME that is taken;");
     Check.dawnFault(THING + "thing t reach 1", 3, 40);
     Check.dawnFault(THING + "man t strength 1", 3, 38);
@@ -393,6 +410,38 @@ public final class EdgeTextsTest {
   }
 
   private static void toldAhead() {
+    Check.says("what a PART names must be told ahead.");
+    String man = "man m strength 1 life 1 holds t;";
+    Check.withDawn(THING + man, 1);
+    Check.withDawn(THING + "man n strength 1 life 1;" + man, 2);
+    Check.dawnFault(man + THING, 3, 30);
+    Check.dawnFault(man, 3, 30);
+  }
+
+  private static void numberedAsTheyStand() {
+    Check.says("All are numbered as they stand;");
+    BestMenDuel x = Check.withDawn("man z strength 1 life 11;thing y reach 1 weight 1 breaks 21;"
+        + "man b strength 2 life 12 holds y;thing a reach 2 weight 2 breaks 22;"
+        + "man k strength 3 life 13 holds a;", 3);
+    for (int i = 0; i < 3; i++) {
+      Check.due("LIFE", x.man(i, 1), 11 + i);
+    }
+    Check.due("BREAKS", x.thing(0, 2), 21);
+    Check.due("BREAKS", x.thing(1, 2), 22);
+    Check.due("holds(1)", x.holds(1), 0);
+    Check.due("holds(2)", x.holds(2), 1);
+  }
+
+  private static void numberThatCant() {
+    Check.says("4 a NUMBER that can't be.");
+    Check.dawnFault("long 0;", 4, 5);
+    Check.dawnFault("long 0001;", 4, 5);
+    Check.dawnFault("sun 0100;", 4, 4);
+    Check.dawnFault("thing t reach 0000 weight 1", 4, 14);
+    Check.dawnFault("man m strength 1 life 0;", 4, 22);
+  }
+
+  private static void noThingToldAhead() {
     Check.says("a NAME that is no THING told ahead.");
     Check.dawnFault("man m strength 1 life 1 holds t;" + THING, 3, 30);
     Check.dawnFault("man m strength 1 life 1 holds m;", 3, 30);
@@ -481,7 +530,8 @@ public final class EdgeTextsTest {
 
   private static void heldAlready() {
     Check.says("a THING that another MAN HOLDS (at that NAME).");
-    Check.dawnFault(THING + "man m strength 1 life 1 holds t;man n strength 1 life 1 holds t;", 5, 96);
+    String held = "man m strength 1 life 1 holds t;man n strength 1 life 1 holds t;";
+    Check.dawnFault(THING + held, 5, 96);
     Check.withDawn(THING + "thing u reach 1 weight 1 breaks 1;man m strength 1 life 1 holds t;"
         + "man n strength 1 life 1 holds u;", 2);
   }

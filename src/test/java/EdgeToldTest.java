@@ -79,6 +79,10 @@ public final class EdgeToldTest {
     Check.due("the first fell", x.told(8), 62);
     Check.due("the last is BROKEN", x.told(6), 128);
     Check.due("won(5, 0)", x.won(5, 0), 1);
+    Check.due("man(5, 5)", x.man(5, 5), 1);
+    Check.due("man(5, 6)", x.man(5, 6), 0);
+    Check.due("man(0, 6)", x.man(0, 6), 1);
+    Check.due("told(9)", x.told(9), 1);
   }
 
   private static void wonInAll() {

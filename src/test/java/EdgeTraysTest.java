@@ -219,6 +219,7 @@ public final class EdgeTraysTest {
   }
 
   private static void belowNone() {
+    Check.says("Where a number may be below 0, STATUS tells NONE from -1.");
     Check.says("The number in a place of a TRAY; STATUS tells NONE from -1 (1, 2, 3).");
     BestMenDuel x = withRow(0, 0, -1);
     Check.due("the number -1", x.read(0, 0), -1);

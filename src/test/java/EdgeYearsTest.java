@@ -50,9 +50,11 @@ public final class EdgeYearsTest {
     livedOfLatest();
     livedCounts();
     itStays();
+    toldAnew();
     meanSeeds();
     meanAhead();
     meanStays();
+    meanLeavesNothing();
     Check.end("EdgeYearsTest");
   }
 
@@ -82,7 +84,8 @@ public final class EdgeYearsTest {
   }
 
   private static void oldOnesStay() {
-    Check.says("changes nothing else (but dawn(), years() with 9 the tape, and what fault() tells)");
+    Check.says("changes nothing else (but dawn(), years() with 9 the tape, and what fault() "
+        + "tells)");
     BestMenDuel x = Check.withDawn(TWO, 2);
     Check.years(x, "rest;loop 2;rest;end;");
     String[] bad = {"stop;stop;?", "loop 3;rest;", "go;go;go;go;loop 0;", "end;", "meet a c;"};
@@ -537,6 +540,8 @@ public final class EdgeYearsTest {
   }
 
   private static void countedFromAhead() {
+    lives("loop 2;loop 2;loop 2;rest;end;end;end;", 15, 0);
+    lives("when near = 0;when near = 0;when near = 0;stop;end;end;end;rest;", 4, 0);
     lives("loop 99;end;", 1, 0);
     lives("loop 9;loop 9;end;end;", 10, 0);
     lives("loop 9;when fights;rest;end;end;", 10, 0);
@@ -698,13 +703,31 @@ public final class EdgeYearsTest {
     Check.due("both", x.lived(0), 2);
   }
 
+  private static void toldAnew() {
+    BestMenDuel x = Check.withDawn(TWO, 2);
+    Check.years(x, "meet a b;strike;rest;strike;loop 99;rest;rest;rest;end;");
+    x.live(0);
+    // 300 less four, less the loop, are 295, all MISSED.
+    int[] all = {295, 3, 1, 6, 1};
+    for (int what = 0; what <= 4; what++) {
+      Check.due("lived(" + what + ")", x.lived(what), all[what]);
+    }
+    Check.years(x, "heal b 1;");
+    x.live(0);
+    for (int what = 0; what <= 4; what++) {
+      Check.due("lived(" + what + ")", x.lived(what), 0);
+    }
+  }
+
   private static void meanSeeds() {
-    Check.says("by so many seeds (1 to 20) from one on (1: the last above 9,999, too; 6: no YEARS)");
+    Check.says("by so many seeds (1 to 20) from one on (1: the last above 9,999, too; 6: no "
+        + "YEARS)");
     BestMenDuel x = Check.withDawn(TWO, 2);
     int[][] bad = {{-1, 1}, {10000, 1}, {LEAST, 1}, {MOST, 1}, {0, 0}, {0, -1}, {0, 21}, {0, LEAST},
         {0, MOST}, {9999, 2}, {9981, 20}, {9980, 21}, {MOST, MOST}, {LEAST, LEAST}, {-1, 2}};
     for (int[] two : bad) {
-      Check.denied(x, "1 ahead of 6, mean(" + two[0] + ", " + two[1] + ")", x.mean(two[0], two[1]), 1);
+      String call = "1 ahead of 6, mean(" + two[0] + ", " + two[1] + ")";
+      Check.denied(x, call, x.mean(two[0], two[1]), 1);
     }
     Check.denied(x, "no YEARS", x.mean(0, 1), 6);
     Check.years(x, "rest;");
@@ -747,6 +770,23 @@ public final class EdgeYearsTest {
       divisor = felled % d == 0 && 20 % d == 0 ? d : divisor;
     }
     Check.fraction(x, "one ahead", x.mean(40, 20), felled / divisor, 20 / divisor);
+  }
+
+  private static void meanLeavesNothing() {
+    Check.says("(mean() alone takes it back)");
+    BestMenDuel x = Check.withDawn(TWO, 2);
+    Check.years(x, "meet a b;strike;rest;strike;");
+    Check.fraction(x, "b falls each time", x.mean(0, 20), 1, 1);
+    Check.due("the same DAWN", Check.dawn(x, TWO), 2);
+    Check.due("nobody has won", x.told(9), 0);
+    Check.due("nothing is WORN", x.thing(0, 3), 0);
+    Check.due("LIFE", x.man(1, 1), 5);
+    Check.refused(x, "no DUEL", x.duel(0), 6);
+    Check.refused(x, "no YEARS", x.live(0), 6);
+    Check.years(x, "meet a b;strike;rest;strike;");
+    x.mean(0, 1);
+    Check.due("forged", x.forge(2, 2, 2), 1);
+    Check.due("nothing is WORN", x.thing(0, 3) + x.thing(1, 3), 0);
   }
 
   private static void meanStays() {
