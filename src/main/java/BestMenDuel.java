@@ -2250,7 +2250,7 @@ public final class BestMenDuel {
       } else if (word == HEAL_WORD) {
         did = dawn.cures(years.who[at], years.number[at]);
       } else {
-        did = bout.actsIn(dawn, word == ANY_WORD ? drawn(ACT_KINDS) : word - REST_WORD);
+        did = bout.actsIn(dawn, word == ANY_WORD ? drawnAct() : word - REST_WORD);
         countAct(did);
       }
       missed += did ? 0 : 1;
@@ -2264,9 +2264,9 @@ public final class BestMenDuel {
       }
     }
 
-    private int drawn(int n) {
+    private int drawnAct() {
       chance = (chance * 3137 + 11353) % 65536;
-      return chance / 8 % n;
+      return chance / 8 % ACT_KINDS;
     }
   }
 }

@@ -1,10 +1,12 @@
 import java.lang.management.ManagementFactory;
+import java.lang.reflect.Array;
 import java.lang.reflect.Field;
 import java.lang.reflect.Method;
 import java.lang.reflect.Modifier;
 import java.nio.file.Files;
 import java.nio.file.Path;
 import java.util.ArrayList;
+import java.util.IdentityHashMap;
 import java.util.List;
 import java.util.Set;
 import java.util.TreeSet;
@@ -34,6 +36,7 @@ public final class LanguageTest {
     words();
     sizes();
     room();
+    held();
     Check.end("LanguageTest");
   }
 
@@ -178,6 +181,36 @@ public final class LanguageTest {
     }
     long made = bean.getThreadAllocatedBytes(me) - before;
     yes("calls make no objects, but made bytes: " + made, made < 4096);
+  }
+
+  /** A thousand objects must fit in the room of 600,000 objects, 7.3 million fields and elements. */
+  private static void held() throws Exception {
+    IdentityHashMap<Object, Object> met = new IdentityHashMap<>();
+    long parts = count(new BestMenDuel(), met);
+    yes("objects and arrays of one object: " + met.size(), met.size() <= 600);
+    yes("fields and elements of one object: " + parts, parts <= 7300);
+  }
+
+  private static long count(Object o, IdentityHashMap<Object, Object> met) throws Exception {
+    if (o == null || met.put(o, o) != null) {
+      return 0;
+    }
+    if (o.getClass().isArray()) {
+      int length = Array.getLength(o);
+      long parts = length;
+      for (int i = 0; i < length && !o.getClass().getComponentType().isPrimitive(); i++) {
+        parts += count(Array.get(o, i), met);
+      }
+      return parts;
+    }
+    long parts = 0;
+    for (Field f : o.getClass().getDeclaredFields()) {
+      if (!Modifier.isStatic(f.getModifiers())) {
+        f.setAccessible(true);
+        parts += 1 + (f.getType().isPrimitive() ? 0 : count(f.get(o), met));
+      }
+    }
+    return parts;
   }
 
   private static void yes(String what, boolean holds) {
